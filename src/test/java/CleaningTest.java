@@ -13,6 +13,8 @@ public final class CleaningTest {
         greibachSteps();
         greibachTooLong();
         greibachTooManyRules();
+        greibachTooManyTails();
+        greibachTooManyBeforeUseless();
         greibachTooManyReplacements();
         greibachTooManyVariables();
         shape();
@@ -75,6 +77,12 @@ public final class CleaningTest {
         bench.dueOf("10: sixty-one with the empty ones", desk::solid, FULL);
         bench.due("10: all as it was", Bench.text(desk), before);
         bench.due("10: the draft too", Bench.enter(desk, ":a"), 0);
+        desk = Bench.desk("A:B", "B:");
+        fill(desk, "C:", 58);
+        bench.dueOf("10: sixty, and one more of the first", desk::solid, FULL);
+        desk = Bench.desk("A:B", "A:", "B:");
+        fill(desk, "C:", 57);
+        bench.dueOf("10: sixty, and no more of them", desk::solid, 58);
     }
 
     /** Adds rules of letters alone to a variable, from aaa on. */
@@ -140,9 +148,10 @@ public final class CleaningTest {
 
     private static void greibachSteps() {
         bench.due("12: Z is the first free one, also before X", made("A:AC", "A:a", "C:Cb", "C:c"),
-            GrammarModel.made("A:AC", "A:a", "C:Cb", "C:c"));
-        bench.due("12: Z in front of Z", made("A:Ba", "A:b", "B:BA", "B:Ab", "B:c"),
-            GrammarModel.made("A:Ba", "A:b", "B:BA", "B:Ab", "B:c"));
+            "10 A:a A:aB B:c B:cB B:cD B:cDB C:c C:cD D:b D:bD");
+        bench.due("12: all steps", made("A:Ba", "A:b", "B:BA", "B:Ab", "B:c"),
+            "23 A:b A:cD A:bED A:cCD A:bECD B:c B:bE B:cC B:bEC C:b C:aE C:bC C:cD C:aEC C:bED C:cCD C:cDC C:bECD C:bEDC"
+                + " C:cCDC C:bECDC D:a E:b");
         bench.due("12: a free one stands in no rule either", made("A:Ab", "A:cB", "B:b", "D:d"), "5 A:cB A:cBC B:b C:b C:bC");
     }
 
@@ -154,8 +163,8 @@ public final class CleaningTest {
         // The tail is one symbol more: B begins with ten and gets no tail.
         bench.due("12: a tail too long", made("A:bbbbbB", "A:b", "B:Abbbb", "B:Bb"),
             FULL + " A:b A:bbbbbB B:Bb B:Abbbb");
-        bench.due("12: a tail just fits", made("A:bbbbB", "A:b", "B:Abbbb", "B:Bb").substring(0, 2),
-            GrammarModel.made("A:bbbbB", "A:b", "B:Abbbb", "B:Bb").substring(0, 2));
+        bench.due("12: a tail just fits", made("A:bbbbB", "A:b", "B:Abbbb", "B:Bb"),
+            "9 A:b A:bDDDB B:bDDDD B:bDDDDC B:bDDDBDDDD B:bDDDBDDDDC C:b C:bC D:b");
         GrammarDesk desk = Bench.desk("A:Baaaaa", "B:Caaaaa", "C:c");
         Bench.type(desk, "A:");
         Bench.word(desk, "aaa");
@@ -183,6 +192,45 @@ public final class CleaningTest {
         desk = Bench.desk("A:BA", "A:a", "A:b", "A:c");
         fillB(desk, 29);
         bench.dueOf("12: sixty-one by the replacement", desk::greibach, FULL);
+    }
+
+    /** Ten rules with own leads become twenty of a tail, and twenty others become forty. */
+    private static GrammarDesk tails() {
+        GrammarDesk desk = Bench.desk("A:AaA", "A:AbA", "A:AcA", "A:AdA", "A:aAAA");
+        for (char letter : "abcdef".toCharArray()) {
+            for (String rule : new String[] {"A:A" + letter, "A:" + letter, "A:" + letter + "A", "A:" + letter + "AA"}) {
+                Bench.enter(desk, rule);
+            }
+        }
+        return desk;
+    }
+
+    private static void greibachTooManyTails() {
+        GrammarDesk desk = tails();
+        Bench.enter(desk, "A:bAAA");
+        bench.due("12: before", desk.rules(), 30);
+        bench.dueOf("12: sixty by the tails", desk::greibach, 60);
+        desk = tails();
+        Bench.enter(desk, "A:bB");
+        Bench.enter(desk, "B:b");
+        bench.dueOf("12: sixty-one by the tails", desk::greibach, FULL);
+        bench.due("12: all as it was", desk.rules(), 31);
+    }
+
+    /** Useless rules go last of what is cleaned, and so they count for the others. */
+    private static void greibachTooManyBeforeUseless() {
+        bench.dueOf("12: sixty by the empty ones", sixtyOnTheWay()::greibach, 0);
+        GrammarDesk desk = sixtyOnTheWay();
+        Bench.enter(desk, "G:GaG");
+        String before = Bench.text(desk);
+        bench.dueOf("12: more by the empty ones", desk::greibach, FULL);
+        bench.due("12: all as it was", Bench.text(desk), before);
+        desk = Bench.desk("A:a", "C:B");
+        fill(desk, "B:", 29);
+        bench.dueOf("12: sixty by the units", desk::greibach, 1);
+        desk = Bench.desk("A:a", "A:b", "C:B");
+        fill(desk, "B:", 29);
+        bench.dueOf("12: sixty-one by the units", desk::greibach, FULL);
     }
 
     /** Adds up to 30 rules to B that are useful and in Greibach's form. */
@@ -229,10 +277,13 @@ public final class CleaningTest {
         bench.due("12: all as it was", desk.rules(), 17);
         desk = Bench.desk(recursive);
         desk.greibach();
-        for (int i = 0; i < 30; i++) {
-            desk.drop(desk.rules() - 1);
-        }
-        bench.due("12: what is left", desk.rules(), 18);
+        Bench.enter(desk, "A:aBCDEF");
+        Bench.enter(desk, "A:aGH");
+        bench.due("12: all are useful", desk.shape(), 15);
+        bench.dueOf("12: nothing to do", desk::greibach, 50);
+        Bench.enter(desk, "A:AB");
+        bench.dueOf("12: none is left for a tail", desk::greibach, FULL);
+        bench.due("12: all as it was then", desk.rules(), 51);
     }
 
     private static void shape() {

@@ -57,12 +57,13 @@ final class GrammarModel {
         rules = set;
     }
 
-    static String made(String... texts) {
+    static int waysOf(String text, String word) {
         GrammarModel model = new GrammarModel();
-        for (String text : texts) {
-            model.rules.add(text.replace(":", ""));
+        for (String rule : text.split(" ")) {
+            model.rules.add(rule.replace(":", ""));
         }
-        return model.greibach() + " " + model.text();
+        model.word = word;
+        return model.ways();
     }
 
     String text() {

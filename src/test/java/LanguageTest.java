@@ -11,6 +11,7 @@ public final class LanguageTest {
         first();
         follow();
         single();
+        ofSixtyRules();
         bench.end();
     }
 
@@ -33,6 +34,7 @@ public final class LanguageTest {
         bench.due("14: beside what is empty alone", Bench.desk("A:ABB", "A:a", "B:", "B:BB").language(1), true);
         bench.due("14: beside itself, empty alone", Bench.desk("A:AA", "A:").language(1), true);
         bench.due("14: beside itself", Bench.desk("A:AA", "A:", "A:a").language(1), false);
+        bench.due("14: beside itself with one letter", Bench.desk("A:AA", "A:a").language(1), false);
         bench.due("14: beside what may have a letter", Bench.desk("A:AB", "A:a", "B:", "B:C", "C:c").language(1), false);
         bench.due("14: an unreached circle", Bench.desk("A:a", "B:bB", "B:b").language(1), true);
         bench.due("14: an unfruitful circle", Bench.desk("A:a", "A:aB", "B:bB").language(1), true);
@@ -111,5 +113,29 @@ public final class LanguageTest {
         bench.due("17: useless ones count", Bench.desk("A:a", "B:bB", "B:bC").single(), false);
         bench.due("17: left leads", Bench.desk("A:Aa", "A:b").single(), false);
         bench.due("17: what chooses nothing meets nothing", Bench.desk("A:B", "A:C", "B:B", "C:C").single(), true);
+    }
+
+    private static void ofSixtyRules() {
+        GrammarDesk desk = new GrammarDesk();
+        for (int i = 0; i < 60; i++) {
+            Bench.enter(desk, "A:" + "abcdef".charAt(i % 6) + "A".repeat(i / 6 % 5) + (i < 30 ? "" : "a"));
+        }
+        bench.due("7: sixty", desk.rules(), 60);
+        bench.due("14: sixty, no word", desk.language(0), false);
+        bench.due("14: sixty, finitely many", desk.language(1), false);
+        bench.due("14: sixty, the empty word", desk.language(2), false);
+        bench.due("15: sixty", desk.first('A'), 63);
+        bench.due("16: sixty", desk.follow('A'), 127);
+        bench.due("17: sixty", desk.single(), false);
+        bench.due("13: sixty", desk.shape(), 7);
+        bench.due("9: sixty", desk.useful(), 0);
+        bench.dueOf("10: sixty", desk::solid, 60);
+        bench.dueOf("11: sixty", desk::plain, 60);
+        bench.dueOf("12: sixty, and one for the letter", desk::greibach, "throws.UnsupportedOperationException");
+        Bench.word(desk, "abcdefabcd");
+        bench.due("20: sixty", desk.derives(), true);
+        bench.dueOf("21: sixty", desk::ways, GrammarModel.waysOf(Bench.text(desk), "abcdefabcd"));
+        bench.dueOf("22: sixty", desk::derive, "throws.IllegalStateException");
+        bench.due("6: sixty", desk.clear(), 60);
     }
 }
