@@ -1,5 +1,12 @@
+import java.util.ArrayList;
+import java.util.List;
+
 /** What the tests share: desks set up by texts, answers as texts, and the list of wrong answers. */
 final class Bench {
+    static final String ARGUMENT = "throws.IllegalArgumentException";
+    static final String STATE = "throws.IllegalStateException";
+    static final String UNSUPPORTED = "throws.UnsupportedOperationException";
+
     /** A call of the face whose answer, or exception, is looked at. */
     interface Call {
         Object answer();
@@ -7,29 +14,65 @@ final class Bench {
 
     private int wrong = 0;
 
-    static GrammarDesk desk(String... rules) {
-        GrammarDesk desk = new GrammarDesk();
+    static Desk desk(String... rules) {
+        Desk desk = new Desk();
+        enterAll(desk, rules);
+        return desk;
+    }
+
+    static void enterAll(Desk desk, String... rules) {
         for (String rule : rules) {
             String answer = enter(desk, rule);
             if (answer.startsWith("throws")) {
                 throw new AssertionError("the test's own rule " + rule + " " + answer);
             }
         }
-        return desk;
     }
 
-    static void type(GrammarDesk desk, String text) {
+    static void type(Desk desk, String text) {
         for (char c : text.toCharArray()) {
             desk.type(c);
         }
     }
 
-    static String enter(GrammarDesk desk, String rule) {
+    static String enter(Desk desk, String rule) {
         type(desk, rule);
         return answer(desk::rule);
     }
 
-    static void word(GrammarDesk desk, String letters) {
+    static void fill(Desk desk, char left, String symbols, int count) {
+        enterAll(desk, rulesOf(left, symbols, count));
+    }
+
+    /**
+     * So many rules of a variable, each a letter and then none, one or two of the symbols: the first
+     * ones are a .. f alone, then come a .. f with the first symbol behind, and so on.
+     */
+    static String[] rulesOf(char left, String symbols, int count) {
+        List<String> rules = new ArrayList<>();
+        for (String tail : tails(symbols)) {
+            for (char letter : "abcdef".toCharArray()) {
+                rules.add(left + ":" + letter + tail);
+            }
+        }
+        return rules.subList(0, count).toArray(new String[0]);
+    }
+
+    private static List<String> tails(String symbols) {
+        List<String> tails = new ArrayList<>();
+        tails.add("");
+        for (char one : symbols.toCharArray()) {
+            tails.add("" + one);
+        }
+        for (char one : symbols.toCharArray()) {
+            for (char two : symbols.toCharArray()) {
+                tails.add("" + one + two);
+            }
+        }
+        return tails;
+    }
+
+    static void word(Desk desk, String letters) {
         desk.wipe();
         for (char c : letters.toCharArray()) {
             desk.feed(c);
@@ -37,22 +80,34 @@ final class Bench {
     }
 
     /** All rules as symbol() and rules() tell them, like "A:ab B:". */
-    static String text(GrammarDesk desk) {
+    static String text(Desk desk) {
         StringBuilder text = new StringBuilder();
-        for (int i = 0; i < desk.rules(); i++) {
-            text.append(i == 0 ? "" : " ").append((char) desk.symbol(i, 0)).append(':');
-            for (int k = 1; desk.symbol(i, k) != GrammarDesk.NONE; k++) {
-                text.append((char) desk.symbol(i, k));
-            }
+        int rules = desk.rules();
+        for (int i = 0; i < rules; i++) {
+            text.append(i == 0 ? "" : " ").append(text(desk, i));
+        }
+        return text.toString();
+    }
+
+    /** One rule as symbol() tells it. */
+    static String text(Desk desk, int i) {
+        StringBuilder text = new StringBuilder();
+        text.append((char) desk.symbol(i, 0)).append(':');
+        int k = 1;
+        for (int symbol = desk.symbol(i, k); symbol != GrammarDesk.NONE; symbol = desk.symbol(i, k)) {
+            text.append((char) symbol);
+            k++;
         }
         return text.toString();
     }
 
     /** The derivation as step() tells it, like "1 0 2". */
-    static String steps(GrammarDesk desk) {
+    static String steps(Desk desk) {
         StringBuilder text = new StringBuilder();
-        for (int k = 0; desk.step(k) != GrammarDesk.NONE; k++) {
-            text.append(k == 0 ? "" : " ").append(desk.step(k));
+        int k = 0;
+        for (int step = desk.step(k); step != GrammarDesk.NONE; step = desk.step(k)) {
+            text.append(k == 0 ? "" : " ").append(step);
+            k++;
         }
         return text.toString();
     }

@@ -5,11 +5,13 @@ import java.util.TreeMap;
 /** Long runs of calls, made from fixed seeds, on the class and on the model: each answer is the same. */
 public final class ModelTest {
     private static final int RUNS = 4000;
+    /** The dearest turn below: a word and its derivation. */
+    private static final int CALLS_OF_A_TURN = 30;
     private static final Bench bench = new Bench();
     private static final Map<String, Integer> seen = new TreeMap<>();
 
     private final Random random;
-    private final GrammarDesk desk = new GrammarDesk();
+    private final Desk desk = new Desk();
     private final GrammarModel model = new GrammarModel();
     private final int run;
     private final String variables;
@@ -40,16 +42,23 @@ public final class ModelTest {
 
     private void play() {
         int rules = random.nextInt(random.nextInt(4) == 0 ? 50 : 12);
-        for (int i = 0; i < rules && calls < 450; i++) {
+        for (int i = 0; i < rules && desk.callsLeft() > 200; i++) {
             enterRule();
         }
-        while (calls < 480 && !differs) {
+        while (desk.callsLeft() >= CALLS_OF_A_TURN && !differs) {
             call(random.nextInt(30));
             if (random.nextInt(60) == 0) {
                 break;
             }
         }
-        same("text", () -> Bench.text(desk), model::text);
+        sameRules();
+    }
+
+    private void sameRules() {
+        for (int i = 0; i < model.rules() && desk.callsLeft() >= 12; i++) {
+            int at = i;
+            same("text " + i, () -> Bench.text(desk, at), () -> model.text().split(" ")[at]);
+        }
     }
 
     private void enterRule() {
