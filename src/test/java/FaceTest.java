@@ -63,7 +63,7 @@ public final class FaceTest {
         return text.toString();
     }
 
-    /** Rules 1, 5 and 11. */
+    /** Rules 1, 5, 11 and 12. */
     private static void insideClasses(Set<String> names) {
         Class<?>[] inside = GrammarDesk.class.getDeclaredClasses();
         bench.due("rule 11: at most twelve classes", inside.length < 12, true);
@@ -74,18 +74,25 @@ public final class FaceTest {
                 bench.due("rule 11: " + method.getName() + " has few parameters", method.getParameterCount() <= 7, true);
             }
             for (Field field : one.getDeclaredFields()) {
-                bench.due("rule 5: " + field, !Modifier.isStatic(field.getModifiers())
-                    || Modifier.isFinal(field.getModifiers()), true);
+                boolean mayChange = field.getType().isPrimitive() && !Modifier.isStatic(field.getModifiers());
+                bench.due("rules 5 and 12: " + field, mayChange || Modifier.isFinal(field.getModifiers()), true);
             }
         }
     }
 
     private static void source() throws IOException {
         String text = Files.readString(Path.of("src/main/java/GrammarDesk.java"));
+        String code = text.replaceAll("(?s)/\\*\\*.*?\\*/", "").replaceAll("//.*", "");
         String[] banned = {"import", "package ", "try", "catch", "finally", "->", "::", "synchronized", "assert", "instanceof",
             "equals(", "hashCode", "toString", "Exact", "protected", "double", "float", "while (true", "for (;;"};
         for (String word : banned) {
-            bench.due("the source holds " + word, text.replaceAll("(?s)/\\*\\*.*?\\*/", "").contains(word), false);
+            bench.due("the source holds " + word, code.contains(word), false);
+        }
+        // Rule 12: what is made stays in a field (these are final, so it is made once) or is thrown.
+        for (String line : code.split("\n")) {
+            if (line.contains("new ")) {
+                bench.due("rule 12: " + line.strip(), line.matches(" +[a-z]+ = new .*;| +throw new [A-Za-z]+\\(\\);"), true);
+            }
         }
     }
 }

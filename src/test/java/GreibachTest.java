@@ -42,6 +42,8 @@ public final class GreibachTest {
     private static void cleanedFirst() {
         bench.due("12: of empty rules, then of units that came", made("A:aBC", "B:CC", "C:", "C:c"),
             "7 A:a A:aB A:aC A:aBC B:c B:cC C:c");
+        bench.due("12: a unit of itself that came of an empty rule", made("A:AB", "A:a", "B:", "B:b"), "5 A:a A:aC B:b C:b C:bC");
+        bench.due("12: of useless rules after units that came", made("A:BC", "B:b", "C:"), "1 A:b");
         bench.due("12: of useless rules after the units", made("A:B", "B:b"), "1 A:b");
         bench.due("12: of useless rules after the empty ones", made("A:aB", "B:"), "1 A:a");
         bench.due("12: useless rules are not brought into the form", made("A:a", "B:BB", "B:b", "C:Aa"), "1 A:a");
@@ -322,7 +324,26 @@ public final class GreibachTest {
         desk = chain(48);
         Bench.enterAll(desk, "H:GA", "A:BA");
         bench.dueOf("12: 289 and 7 replacements", desk::greibach, 58);
+        replacementsOfTwo();
         refusedThenCounted();
+    }
+
+    /** G begins with A 25 times and H 24 times, which takes six replacements each; A .. E take five in (3). */
+    private static Desk chainOfTwo() {
+        Desk desk = Bench.desk("A:BH", "B:CH", "C:DH", "D:EH", "E:FH", "F:aG", "G:b", "H:b");
+        for (int i = 0; i < 49; i++) {
+            Bench.enterAll(desk, "GH".charAt(i / 25) + ":A" + "BCDEFGH".charAt(i / 7) + "BCDEFGH".charAt(i % 7));
+        }
+        return desk;
+    }
+
+    private static void replacementsOfTwo() {
+        Desk desk = chainOfTwo();
+        Bench.enterAll(desk, "G:FA");
+        bench.dueOf("12: 151, 144 and 5 replacements", desk::greibach, 58);
+        desk = chainOfTwo();
+        Bench.enterAll(desk, "G:FA", "H:FA");
+        refused(": 151, 145 and 5 replacements", desk);
     }
 
     /** The replacements of a call before do not count. */

@@ -52,6 +52,7 @@ public final class LanguageTest {
         bench.due("14: one", Bench.desk("A:a").language(1), true);
         bench.due("14: a circle of units", Bench.desk("A:B", "B:A", "B:ab").language(1), true);
         bench.due("14: a unit of itself", Bench.desk("A:A", "A:a").language(1), true);
+        bench.due("14: a circle of units beside two letters", Bench.desk("A:C", "C:A", "A:ab").language(1), true);
         bench.due("14: beside what is empty alone", Bench.desk("A:ABB", "A:a", "B:", "B:BB").language(1), true);
         bench.due("14: beside itself, empty alone", Bench.desk("A:AA", "A:").language(1), true);
         bench.due("14: many without a circle", Bench.desk("A:BBBBBB", "B:CCCCCC", "C:a", "C:").language(1), true);
@@ -60,10 +61,13 @@ public final class LanguageTest {
     private static void infinitelyMany() {
         bench.due("14: a circle behind", Bench.desk("A:aA", "A:").language(1), false);
         bench.due("14: a circle in front", Bench.desk("A:Ab", "A:c").language(1), false);
+        bench.due("14: a circle in the first rule of all", Bench.desk("A:Ab", "A:ccc").language(1), false);
+        bench.due("14: beside a letter and what is empty alone", Bench.desk("A:AaB", "A:a", "B:").language(1), false);
         bench.due("14: a circle over two", Bench.desk("A:B", "B:Ac", "B:ab").language(1), false);
         bench.due("14: beside itself", Bench.desk("A:AA", "A:", "A:a").language(1), false);
         bench.due("14: beside itself with one letter", Bench.desk("A:AA", "A:a").language(1), false);
         bench.due("14: beside what may have a letter", Bench.desk("A:AB", "A:a", "B:", "B:C", "C:c").language(1), false);
+        bench.due("14: beside a letter with what is empty alone", Bench.desk("A:AB", "A:", "B:aC", "C:").language(1), false);
         bench.due("14: below the start", Bench.desk("A:aB", "B:CbD", "C:c", "D:B", "D:d").language(1), false);
         bench.due("14: a circle over eight",
             Bench.desk("A:B", "B:C", "C:D", "D:E", "E:F", "F:G", "G:H", "H:aA", "H:").language(1), false);
@@ -154,6 +158,8 @@ public final class LanguageTest {
         bench.due("16: over eight", Bench.desk("A:Bf", "B:C", "C:D", "D:E", "E:F", "F:G", "G:H", "H:a").follow('H'), 32);
         bench.due("16: over eight, against the alphabet",
             Bench.desk("A:Hf", "H:G", "G:F", "F:E", "E:D", "D:C", "C:B", "B:a").follow('B'), 32);
+        bench.due("16: beside one behind which nothing new comes",
+            Bench.desk("A:BHf", "H:BG", "G:BF", "F:BE", "E:e", "B:b").follow('E'), 32);
     }
 
     private static void followStart() {
@@ -258,5 +264,12 @@ public final class LanguageTest {
         bench.dueOf("21: sixty", desk::ways, GrammarModel.waysOf(rules, "abcdefabcd"));
         bench.dueOf("22: sixty", desk::derive, 10);
         bench.due("6: sixty", desk.clear(), 60);
+        desk = Bench.desk(Bench.rulesOf('A', "AB", 42));
+        Bench.fill(desk, 'B', "AB", 18);
+        bench.due("14: sixty useful ones", desk.language(1), false);
+        desk = Bench.desk(Bench.rulesOf('A', "BC", 42));
+        Bench.fill(desk, 'B', "C", 12);
+        Bench.fill(desk, 'C', "", 6);
+        bench.due("14: sixty useful ones without a circle", desk.language(1), true);
     }
 }

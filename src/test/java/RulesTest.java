@@ -273,6 +273,12 @@ public final class RulesTest {
         bench.due("6: only new ones are there", Bench.text(desk), "A:d");
         bench.due("6: the word stays", desk.wipe(), 2);
         bench.due("6: of one", desk.clear(), 1);
+        desk = Bench.desk("A:a", "A:bA");
+        desk.shape();
+        desk.language(1);
+        desk.greibach();
+        bench.due("6: after they were cleaned", desk.clear(), 2);
+        bench.due("6: none of the cleaned ones is left", desk.rules(), 0);
         bench.due("6: of sixty", sixty().clear(), 60);
     }
 

@@ -314,6 +314,7 @@ public final class TermsTest {
     private static void cleaningOfUnits() {
         bench.due("Terms, cleaning: over one unit", plain("A:B", "B:b"), "2 A:b B:b");
         bench.due("Terms, cleaning: over several units", plain("A:B", "B:C", "C:D", "D:dA"), "4 A:dA B:dA C:dA D:dA");
+        bench.due("Terms, cleaning: over each of two units", plain("A:B", "A:C", "B:b", "C:c"), "4 A:b A:c B:b C:c");
         bench.due("Terms, cleaning: X itself", plain("A:B", "A:aa", "B:b"), "3 A:b A:aa B:b");
         bench.due("Terms, cleaning: a unit of itself", plain("A:A", "A:a"), "1 A:a");
         bench.due("Terms, cleaning: in a circle", plain("A:B", "B:C", "C:A", "C:c", "A:a"), "6 A:a A:c B:a B:c C:a C:c");
@@ -324,6 +325,10 @@ public final class TermsTest {
         bench.due("Terms, cleaning: no units", plain("A:a", "A:BB", "B:b"), "3 A:a A:BB B:b");
         bench.due("Terms, cleaning: of no rules at all", plain(), "0 ");
         bench.due("Terms, cleaning: against the alphabet", plain("A:a", "H:G", "G:F", "F:A"), "4 A:a F:a G:a H:a");
+        Desk desk = Bench.desk("A:B", "B:b");
+        desk.plain();
+        Bench.enterAll(desk, "B:c");
+        bench.dueOf("Terms, cleaning: units of before are gone", desk::plain, 3);
     }
 
     /** A gets what B has: with the unit and those of C there are sixty. */

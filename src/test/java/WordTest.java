@@ -92,6 +92,12 @@ public final class WordTest {
         desk = Bench.desk("A:AA", "A:B", "A:", "B:A", "B:aCb", "C:CC", "C:", "C:A");
         bench.due("20: with units, circles and empty rules", derives(desk, "aabbabab"), true);
         bench.due("20: not this", derives(desk, "aabbabba"), false);
+        desk = Bench.desk("A:BaC", "B:a", "B:aa", "C:ab", "C:b");
+        bench.due("20: the shorter one in front", derives(desk, "aaab"), true);
+        bench.due("20: either one in front", derives(desk, "aab"), true);
+        bench.due("20: the longer one in front", derives(desk, "aaaab"), true);
+        desk = Bench.desk("A:BaC", "B:a", "B:aa", "C:ab");
+        bench.due("20: only the shorter one in front", derives(desk, "aaab"), true);
     }
 
     private static void derivesEmptyWord() {
@@ -121,6 +127,9 @@ public final class WordTest {
         bench.due("20: more than the word", derives(Bench.desk("A:aaa"), "aa"), false);
         bench.due("20: never ending", derives(Bench.desk("A:aA"), "aaa"), false);
         bench.due("20: by what has no rule", derives(Bench.desk("A:aB"), "a"), false);
+        bench.due("20: what isn't nullable is not left out in front", derives(Bench.desk("A:Ba", "B:b"), "a"), false);
+        bench.due("20: nor behind", derives(Bench.desk("A:aB", "B:b"), "a"), false);
+        bench.due("20: nor between", derives(Bench.desk("A:aBa", "B:b"), "aa"), false);
     }
 
     private static String ways(Desk desk, String word) {
