@@ -22,6 +22,7 @@ public final class TermsTest {
         refusedGreibach();
         produces();
         fruitful();
+        fruitfulOverSixteen();
         reached();
         nullable();
         useless();
@@ -216,6 +217,24 @@ public final class TermsTest {
         bench.due("Terms, fruitful: not by itself alone", Bench.desk("A:a", "A:B", "B:bB").useful(), 2);
         // Found from behind, by one variable more each time.
         bench.due("Terms, fruitful: over eight", Bench.desk("A:B", "B:C", "C:D", "D:E", "E:F", "F:G", "G:H", "H:").useful(), 0);
+    }
+
+    /** Of Greibach's form only the rules stay by which each of A .. P needs the next one. */
+    private static void fruitfulOverSixteen() {
+        Desk desk = Bench.desk("A:AB", "A:a", "B:BC", "B:b", "C:CD", "C:c", "D:DE", "D:d", "E:EF", "E:e", "F:FG", "F:f",
+            "G:GHa", "G:a", "H:Aa", "H:b");
+        bench.dueOf("12: sixteen variables, the last one for a letter", desk::greibach, 48);
+        List<String> kept = List.of("H:aIP", "I:bJ", "J:cK", "K:dL", "L:eM", "M:fN", "N:aO", "O:bP", "P:a");
+        for (int i = 47; i >= 0; i--) {
+            if (!kept.contains(Bench.text(desk, i))) {
+                desk.drop(i);
+            }
+        }
+        bench.due("5: nine stay", desk.rules(), 9);
+        bench.due("Terms, fruitful: not yet the start", desk.language(0), true);
+        Bench.enterAll(desk, "A:aB", "B:aC", "C:aD", "D:aE", "E:aF", "F:aG", "G:aH");
+        bench.due("Terms, fruitful: over sixteen", desk.language(0), false);
+        bench.due("Terms, reached: over sixteen", desk.useful(), 0);
     }
 
     private static void reached() {
