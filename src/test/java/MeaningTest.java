@@ -5,8 +5,8 @@ import java.util.function.Consumer;
 
 /**
  * What the cleanings and Greibach's form are made for: the start produces the same words behind them
- * as before, but for the empty one where empty rules go. This asks the class alone, so a step that
- * class and model both misread would show here.
+ * as before, but for the empty one where empty rules go. This asks the class alone: a step misread by
+ * class and model alike shows here, if it changes which words there are.
  */
 public final class MeaningTest {
     private static final int GRAMMARS = 10000;
